@@ -443,7 +443,6 @@ public final class FloodBasins {
         private final int[] seen = new int[MOST_DOTS];
 
         void forget() {
-            size = 0;
             Arrays.fill(seen, 0);
         }
 

@@ -440,6 +440,8 @@ public final class PromiseTests {
         ways.mark(4, 0, 10);
         ways.mark(6, 0, 40);
         due("10 of one PASS", ways.basin(20, 5), 10);
+        ways.mark(0, 0, 5);
+        due("10 of one PASS, the first", ways.basin(20, 5), 5);
         due("10 of the least PASS", ways.basin(10, 5), 40);
     }
 
@@ -619,6 +621,9 @@ public final class PromiseTests {
         marked.mark(0, 0, 2);
         marked.mark(1, 0, 2);
         due("16 LEVEL of a MARK", marked.count(8), 99);
+        marked.mark(1, 0, 99);
+        due("16 the greatest number", marked.count(4), 2);
+        due("16 the greatest number, POURED", marked.count(5), 2);
         due("16 -1", basins.count(-1), OUTSIDE);
         due("16 13", basins.count(13), OUTSIDE);
         for (int bad : FAR) {
