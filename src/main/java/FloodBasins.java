@@ -734,7 +734,7 @@ public final class FloodBasins {
             int height = terrain.heights[dot];
             for (int side = 0; side < NEIGHBOURS; side++) {
                 int one = terrain.basinBeside(dot, side, owners);
-                for (int later = side + 1; later < NEIGHBOURS; later++) {
+                for (int later = side + 1; one != NONE && later < NEIGHBOURS; later++) {
                     notePass(one, terrain.basinBeside(dot, later, owners), height);
                 }
             }
