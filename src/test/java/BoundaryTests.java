@@ -214,6 +214,10 @@ public final class BoundaryTests {
             "poured = 1 2 5 3", "dots(5) = 2 2 2 / 2 2 2 / 2 2 2", "count(7) = 0", "count(6) = 3");
         test("3 POUR: water never came to a DOT, nor does it then", "land(3, 3) = 1", "marks 0 0 1 / 0 2 0 / 3 0 0",
             "bound(0, 2000) = 2", "dots(5) = . 3 3 / 3 3 3 / 3 3 .", "basin(3, 0) = 7", "count(7) = 0");
+        test("3 POUR: a DOT to which water never came is no DAM: no PASS goes over it, and it becomes of none", "rows 0 3 0 / 9 0 9 / 0 4 0",
+            "marks 1 0 2 / 0 0 0 / 3 0 4", "dots(2) = 1 0 2 / 0 . 0 / 3 0 4", "bound(0, 2) = 2", "poured = 1 2 3 1 / 3 4 4 1",
+            "dots(5) = 2 2 2 / 0 . 0 / 4 4 4", "pass(2, 4) = 9", "basin(2) = 3 9 24 0 9 4", "count(7) = 2", "bound(0, 4) = 3",
+            "poured = 1 2 3 1 / 3 4 4 1 / 2 4 9 2", "dots(5) = 4 4 4 / 4 . 4 / 4 4 4", "basin(4) = 8 0 0 0 . .", "count(7) = 0");
         test("3 POUR: the least and the greatest number", "rows 0 0 5 0", "marks 1 1 0 99", "bound(0, 2) = 1", "poured = 99 1 5 1",
             "tree = 1 99 5 1", "rows 0 5 0 0", "marks 1 0 99 99", "bound(0, 2) = 1", "poured = 1 99 5 1");
         test("3 POUR: one number in two places goes as one", "rows 0 5 0 5 0", "marks 1 0 2 0 1", "bound(0, 2) = 1",
@@ -292,6 +296,9 @@ public final class BoundaryTests {
         test("P2 no HEIGHT and no MARK comes back with a greater land", "rows 5 6 / 7 8", "marks 1 2 / 3 4", "land(1, 1) = 1",
             "land(2, 2) = 1", "dots(0) = 0 0 / 0 0", "dots(1) = 0 0 / 0 0", "land(3, 3) = 1", "dots(0) = 0 0 0 / 0 0 0 / 0 0 0",
             "dots(1) = 0 0 0 / 0 0 0 / 0 0 0");
+        test("P2 nothing else changes: KIND, BOUND and IMAGES stay", "rows 5 6", "marks 1 2", "bound(2, 30) = 1", "image(1) = 1",
+            "land(2, 1) = 1", "count(9) = 2", "count(10) = 30", "count(12) = 2", "restore(0) = STATE", "restore(1) = 1", "dots(0) = 5 6",
+            "dots(1) = 1 2", "count(9) = 2", "count(10) = 30");
         test("P2 NEIGHBOURS are those of the new land", "rows 0 9 0 / 9 9 9", "land(2, 3) = 1", "mark(0, 0, 1) = 0",
             "dots(4) = 0 1 / 2 3 / 4 5", "land(6, 1) = 1", "mark(0, 0, 1) = 0", "dots(4) = 0 1 2 3 4 5");
     }

@@ -85,6 +85,8 @@ public final class RuleTests {
             } else {
                 must(Modifier.isPrivate(field.getModifiers()), field + " is private");
             }
+            must(!Modifier.isStatic(field.getModifiers()) || Modifier.isFinal(field.getModifiers()) && field.getType() == int.class,
+                field + " is of the object, or a constant of int");
         }
         must(found == CONSTANTS.size(), "every constant is there");
     }
